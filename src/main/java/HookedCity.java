@@ -641,6 +641,7 @@ public final class HookedCity {
             Arrays.fill(from, NONE);
         }
 
+        /** What only the first DAY of a new CITY needs is not copied. */
         void copy(Town other) {
             System.arraycopy(other.names, 0, names, 0, MOST_PERSONS);
             System.arraycopy(other.loops, 0, loops, 0, MOST_PERSONS);

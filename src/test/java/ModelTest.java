@@ -223,14 +223,15 @@ public final class ModelTest {
     private int newCity() {
         String text = cityText();
         int wish = upTo(12);
+        text = spoil(spoilTokens(tokens(text), wish == 0 ? 40 : 5), 8);
         if (wish == 0) {
-            text = text + " ".repeat(Math.max(0, 893 + upTo(14) - text.length())) + any("", ";", "spare 3;", "x");
+            text = text + " ".repeat(Math.max(0, 885 + upTo(22) - text.length())) + any("", ";", "spare 3;", "x");
         }
-        text = spoil(spoilTokens(tokens(text), wish == 0 ? 40 : 5), 8) + (wish == 0 ? " ".repeat(upTo(300)) : "");
         if (wish == 1) {
             int room = Math.max(0, 880 + upTo(30) - text.length());
             text = " ".repeat(room) + text;
         }
+        text = text.length() > 940 ? text.substring(0, 940) : text;
         int calls = feedAll(text);
         same("city", x.city(), y.city());
         same("fault", x.fault(), y.fault());
@@ -248,10 +249,11 @@ public final class ModelTest {
             loops[p] = upTo(kinds);
             buttons[p] = upTo(kinds);
             text.append("person ").append(NAMES[p]).append(' ').append(KINDS[loops[p]]).append(' ')
-                .append(KINDS[buttons[p]]).append(' ').append(1 + upTo(upTo(2) == 0 ? 2 : 9)).append(';');
+                .append(KINDS[buttons[p]]).append(' ').append(strength()).append(';');
         }
         for (int m = 0; m < maids; m++) {
-            text.append("maid ").append(NAMES[10 + m]).append(' ').append(1 + upTo(4)).append(';');
+            int hooks = upTo(40) == 0 ? upTo(2) * 10 : 1 + upTo(4);
+            text.append("maid ").append(NAMES[10 + m]).append(' ').append(hooks).append(';');
         }
         int dense = upTo(3);
         for (int p = 0; p < persons; p++) {
@@ -281,6 +283,10 @@ public final class ModelTest {
         return text.toString();
     }
 
+    private String strength() {
+        return upTo(90) == 0 ? any("0", "10", "007") : String.valueOf(1 + upTo(upTo(2) == 0 ? 2 : 9));
+    }
+
     private String personName() {
         return NAMES[upTo(Math.max(1, y.count(0)))];
     }
@@ -305,12 +311,14 @@ public final class ModelTest {
                     text.append("mend ").append(personName());
                     break;
                 default:
-                    text.append("day ").append(1 + upTo(upTo(6) == 0 ? 60 : 3));
+                    text.append("day ").append(upTo(40) == 0 ? upTo(2) * 61 : 1 + upTo(upTo(6) == 0 ? 60 : 3));
             }
             text.append(';');
         }
-        String whole = upTo(15) == 0 ? " ".repeat(380 + upTo(25)) + text : text.toString();
-        int calls = feedAll(spoil(spoilTokens(tokens(whole), 5), 10) + (upTo(30) == 0 ? " ".repeat(401) : ""));
+        String whole = spoil(spoilTokens(tokens(text.toString()), 5), 10);
+        whole = whole.length() > 480 ? whole.substring(0, 480) : whole;
+        whole = upTo(15) == 0 ? " ".repeat(360 + upTo(45)) + whole : whole;
+        int calls = feedAll(whole + (upTo(30) == 0 ? " ".repeat(upTo(402)) : ""));
         int lives = upTo(20) == 0 ? upTo(5) - 2 : upTo(2);
         same("book " + lives, x.book(lives), y.book(lives));
         same("fault", x.fault(), y.fault());
@@ -347,7 +355,8 @@ public final class ModelTest {
     private int newSentence() {
         String text = cond(0);
         if (upTo(10) == 0) {
-            text = any("not ", "(").repeat(5 + upTo(6)) + text;
+            String inner = any("open", "ring", text) + any("", ")".repeat(upTo(10)));
+            text = any("not ", "(", "not(").repeat(3 + upTo(6)) + inner;
         }
         String whole = spoil(spoilTokens(tokens(text), 5), 10);
         whole = whole.length() > 260 ? whole.substring(0, 260) : whole;
