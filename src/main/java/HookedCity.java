@@ -404,7 +404,7 @@ public final class HookedCity {
 
         private static final Word[] ALL = values();
 
-        private final long name;
+        private final long letters;
         private final int kind;
 
         Word(String text) {
@@ -412,21 +412,21 @@ public final class HookedCity {
         }
 
         Word(String text, int kind) {
-            this.name = packed(text);
+            this.letters = packed(text);
             this.kind = kind;
         }
 
         private static long packed(String text) {
-            long name = 0;
+            long letters = 0;
             for (int i = 0; i < text.length(); i++) {
-                name = Tape.longer(name, text.charAt(i));
+                letters = Tape.longer(letters, text.charAt(i));
             }
-            return name;
+            return letters;
         }
 
-        static Word named(long name) {
+        static Word spelt(long letters) {
             for (int i = 0; i < ALL.length; i++) {
-                if (ALL[i].name == name) {
+                if (ALL[i].letters == letters) {
                     return ALL[i];
                 }
             }
@@ -542,7 +542,7 @@ public final class HookedCity {
             }
             token = BAD;
             if (digits == 0 && letters <= MOST_LETTERS) {
-                word = Word.named(name);
+                word = Word.spelt(name);
                 token = word == null ? NAME : WORD;
             } else if (letters == 0 && digits <= MOST_DIGITS) {
                 token = NUMBER;
@@ -1250,9 +1250,11 @@ public final class HookedCity {
         int live(Town town, State state) {
             int why = 0;
             int line = 0;
-            while (line < lines && why == 0) {
+            for (; line < lines; line++) {
                 why = liveLine(town, state, line);
-                line += why == 0 ? 1 : 0;
+                if (why != 0) {
+                    break;
+                }
             }
             tells[0] = why;
             tells[1] = line;
@@ -1454,7 +1456,7 @@ public final class HookedCity {
                 } else if (step == Word.AND || step == Word.OR) {
                     if (top > 1) {
                         top--;
-                        stack[top - 1] = step == Word.AND ? stack[top - 1] & stack[top] : stack[top - 1] | stack[top];
+                        stack[top - 1] = joined(step, stack[top - 1], stack[top]);
                     }
                 } else if (top < MOST_ONES) {
                     stack[top] = bitsOf(town, state, i);
@@ -1462,6 +1464,10 @@ public final class HookedCity {
                 }
             }
             return top > 0 ? stack[0] : 0;
+        }
+
+        private static int joined(Word step, int first, int second) {
+            return step == Word.AND ? first & second : first | second;
         }
 
         private int bitsOf(Town town, State state, int i) {
@@ -1572,7 +1578,7 @@ public final class HookedCity {
             return most;
         }
 
-        /** A loop for p, others being moved for it; a loop is tried once, so it goes no deeper than there are loops. */
+        /** A loop for p, others being moved for it; each is tried once, so it goes no deeper than there are loops. */
         private boolean finds(int p, int free, int depth) {
             if (depth > MOST_PERSONS) {
                 return false;
