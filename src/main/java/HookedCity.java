@@ -1731,7 +1731,8 @@ public final class HookedCity {
 
     /** The latest CARD. */
     private static final class Label {
-        private static final int MOST_BYTES = 24;
+        /** Two NAMES of seven letters, ' in ' and ' torn'. */
+        private static final int MOST_BYTES = 23;
 
         private final int[] bytes = new int[MOST_BYTES];
         private int length = 0;

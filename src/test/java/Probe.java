@@ -4,6 +4,9 @@ import java.util.NoSuchElementException;
 final class Probe {
     static final int NONE = HookedCity.NONE;
     static final int THROWS = 1 << 20;
+    static final int CITY = 0;
+    static final int BOOK = 1;
+    static final int SENTENCE = 2;
 
     private static int checks = 0;
     private static int wrong = 0;
@@ -98,6 +101,51 @@ final class Probe {
             text.append((char) x.byteAt(i));
         }
         due("byteAt behind the card", x.byteAt(length), NONE);
+        return text.toString();
+    }
+
+    /** The place of the FAULT of a text, by the one of three readers; NONE without one. */
+    static int placeOf(HookedCity x, int reader, String text) {
+        tape(x, text);
+        if (reader == BOOK) {
+            int wrong = x.book(0);
+            return wrong < NONE ? -2 - wrong : NONE;
+        }
+        int many = reader == CITY ? x.city() : x.sentence();
+        return many < 0 ? -1 - many : NONE;
+    }
+
+    static void fine(HookedCity x, int reader, String text) {
+        due("no place of a FAULT: " + text, placeOf(x, reader, text), NONE);
+        due("no FAULT: " + text, x.fault(), 0);
+    }
+
+    static void fault(HookedCity x, int reader, String text, int kind, int place) {
+        due("place of the FAULT: " + text, placeOf(x, reader, text), place);
+        due("kind of the FAULT: " + text, x.fault(), kind);
+    }
+
+    /** The FAULT is at the sign !, which is not part of the text. */
+    static void faultAt(HookedCity x, int reader, String marked, int kind) {
+        int place = marked.indexOf('!');
+        fault(x, reader, marked.substring(0, place) + marked.substring(place + 1), kind, place);
+    }
+
+    /** Numbers that none of n has: next to both ends, and where a shift of bits or a cast would come round again. */
+    static int[] beyond(int n) {
+        return new int[] {-1, -2, n, n + 1, 32, 33, 64, 255, 256, -31, -32, -64, 1 << 16, 1 << 30, Integer.MAX_VALUE,
+            Integer.MAX_VALUE - 1, Integer.MIN_VALUE, Integer.MIN_VALUE + 1};
+    }
+
+    /** What calls told last and the tape, with all that is so; asked for without a change. */
+    static String everything(HookedCity x) {
+        StringBuilder text = new StringBuilder(all(x));
+        for (int i = -1; i < 24; i++) {
+            text.append(' ').append(x.byteAt(i)).append(' ').append(x.wayAt(i)).append(' ').append(x.matched(i));
+            text.append(' ').append(x.told(i)).append(' ').append(x.said(i));
+        }
+        text.append(' ').append(x.fault()).append(' ').append(x.count(4)).append(' ').append(x.takes());
+        text.append(' ').append(x.slipLeast()).append(' ').append(x.turn());
         return text.toString();
     }
 
